@@ -1,4 +1,5 @@
 import java.util.function.Consumer;
+import java.util.function.Function;
 import java.util.function.ToIntFunction;
 
 /** The edges that the document names for promises 19 to 22, of the history, and of 512 calls. */
@@ -132,6 +133,14 @@ public final class HistoryEdgesTest {
             for (int i = 2; i >= 0; i--) Checks.due("undo()", x.undo(), i);
             Checks.due("text 0", Checks.text(x, 0), "a");
         });
+        Checks.test("Changes: each change drops the oldest state of a full history", () -> {
+            dropsOldest("load", x -> x.load(2));
+            dropsOldest("edit", x -> x.edit(0, 0, 20));
+            dropsOldest("swap", x -> x.swap(0, 1));
+            dropsOldest("set", x -> x.set(1, 1));
+            dropsOldest("lay", x -> x.lay(true));
+            dropsOldest("restore", x -> x.restore());
+        });
         Checks.test("Changes: load, edit, swap, set, lay and restore, also if nothing is different then", () -> {
             recorded("load", x -> x.load(1), true);
             recorded("edit", x -> x.edit(0, 0, 10), true);
@@ -160,6 +169,21 @@ public final class HistoryEdgesTest {
             () -> Checks.of("abc.", "a{c", "abc."), x -> Checks.looks(x)));
     }
 
+    private static void dropsOldest(String named, Consumer<HunkSlides> change) {
+        HunkSlides x = new HunkSlides();
+        x.save();
+        for (int i = 0; i < 4; i++) x.edit(0, i, i);
+        Checks.type(x, "e");
+        change.accept(x);
+        Checks.due("count(17) after " + named, x.count(17), 4);
+        String[] states = {"abcd||", "abc||", "ab||", "a||"};
+        for (int i = 0; i < 4; i++) {
+            Checks.due("undo() after " + named, x.undo(), 3 - i);
+            Checks.due("the state then", Checks.state(x), states[i] + " 0 0 1 0");
+        }
+        Checks.due("undo() of the dropped state", x.undo(), Checks.IMPOSSIBLE);
+    }
+
     private static void recorded(String named, Consumer<HunkSlides> call, boolean change) {
         HunkSlides x = Checks.type(Checks.of("a", "a", "a"), "a");
         x.save();
@@ -167,6 +191,80 @@ public final class HistoryEdgesTest {
         call.accept(x);
         Checks.due("count(17) after " + named, x.count(17), change ? 4 : 3);
         if (change) Checks.due("the state after " + named, Checks.state(x), before);
+    }
+
+    /** Two hunks, one of them plain, with other views and patches behind each change. */
+    private static HunkSlides made() {
+        HunkSlides x = Checks.of(".ab.abc", ".ab.ab.ab{", ".ab.abc");
+        x.edit(2, 0, 20);
+        x.save();
+        x.edit(2, 0, 6);
+        return Checks.type(x, "a}");
+    }
+
+    private static void looksAfter(String change, ToIntFunction<HunkSlides> done) {
+        sameAtOnce(change, done, "view(w)", x -> Checks.row(5, w -> x.view(4, w)));
+        sameAtOnce(change, done, "hunk(0, w)", x -> Checks.hunk(x, 0));
+        sameAtOnce(change, done, "whyNot(0, up)", x -> String.valueOf(x.whyNot(0, false)));
+        sameAtOnce(change, done, "whyNot(0, down)", x -> String.valueOf(x.whyNot(0, true)));
+        for (int w = 0; w < 18; w++) {
+            int what = w;
+            sameAtOnce(change, done, "count(" + w + ")", x -> String.valueOf(x.count(what)));
+        }
+        sameAtOnce(change, done, "alike()", x -> String.valueOf(x.alike()));
+        sameAtOnce(change, done, "distance(0)", x -> String.valueOf(x.distance(0)));
+        sameAtOnce(change, done, "distance(1)", x -> String.valueOf(x.distance(1)));
+        sameAtOnce(change, done, "ifLaid(0, false, 0)", x -> String.valueOf(x.ifLaid(0, false, 0)));
+        sameAtOnce(change, done, "ifLaid(0, true, 1)", x -> String.valueOf(x.ifLaid(0, true, 1)));
+        sameAtOnce(change, done, "ifAround(0)", x -> String.valueOf(x.ifAround(0)));
+        sameAtOnce(change, done, "least()", x -> String.valueOf(x.least()));
+        sameAtOnce(change, done, "lay(false)", x -> x.lay(false) + Checks.state(x));
+        sameAtOnce(change, done, "lay(true)", x -> x.lay(true) + Checks.state(x));
+        sameAtOnce(change, done, "save()", x -> String.valueOf(x.save()));
+    }
+
+    /** A look answers the same as the first one after a change, after other looks, and with looks before the change. */
+    private static void sameAtOnce(String change, ToIntFunction<HunkSlides> done, String look, Function<HunkSlides, String> told) {
+        HunkSlides late = made();
+        done.applyAsInt(late);
+        Checks.looks(late);
+        String due = told.apply(late);
+        HunkSlides first = made();
+        done.applyAsInt(first);
+        Checks.due(look + " at once after " + change, told.apply(first), due);
+        HunkSlides again = made();
+        Checks.looks(again);
+        done.applyAsInt(again);
+        Checks.due(look + " after looks and " + change, told.apply(again), due);
+    }
+
+    private static void looks() {
+        Checks.test("Looks: they tell the texts and settings as they are then", () -> {
+            looksAfter("load", x -> x.load(1));
+            looksAfter("edit", x -> x.edit(1, 7, 16));
+            looksAfter("swap", x -> x.swap(0, 1));
+            looksAfter("set of AROUND", x -> x.set(0, 0));
+            looksAfter("set of SLIDE", x -> x.set(1, 1));
+            looksAfter("lay", x -> x.lay(false));
+            looksAfter("undo", x -> x.undo());
+            looksAfter("restore", x -> x.restore());
+        });
+        Checks.test("Promise 13: a hunk that was a plain one is none then", () -> {
+            HunkSlides x = Checks.of("a", "ab");
+            Checks.due("hunk(0, 3)", x.hunk(0, 3), 1);
+            x.edit(0, 1, 2);
+            Checks.due("hunk(0, 3)", x.hunk(0, 3), 0);
+            x.edit(0, 1, 20);
+            Checks.due("hunk(0, 3)", x.hunk(0, 3), 1);
+        });
+        Checks.test("Promise 9: patches that fit are laid after some that were refused", () -> {
+            HunkSlides x = Checks.of("", "a", Checks.times("b", 14));
+            Checks.due("lay(false)", x.lay(false), Checks.LIMIT);
+            Checks.due("lay(true)", x.lay(true), 0);
+            x.edit(2, 0, 20);
+            Checks.due("lay(false)", x.lay(false), 1);
+            Checks.due("texts", Checks.texts(x), "|a|a" + Checks.times("b", 13));
+        });
     }
 
     private static void save() {
@@ -304,6 +402,7 @@ public final class HistoryEdgesTest {
         least();
         undo();
         history();
+        looks();
         save();
         restore();
         manyCalls();

@@ -59,12 +59,27 @@ public final class LookEdgesTest {
             apart("abcd", "a.b.c.d", 3);
             apart("abc", "cba", 4);
         });
+        Checks.test("Promise 11: the same for both ways, for all texts of up to 5 lines of two kinds", () -> {
+            for (int i = 1; i < 64; i++) {
+                HunkSlides x = Checks.load(new HunkSlides(), ofBits(i), 0);
+                for (int j = 1; j < 64; j++) {
+                    Checks.load(x, ofBits(j), 1);
+                    if (x.distance(0) != x.distance(1)) Checks.due("distance(1)", x.distance(1), x.distance(0));
+                    if (j % 16 == 0) x = Checks.load(new HunkSlides(), ofBits(i), 0);
+                }
+            }
+        });
         Checks.test("Promise 11: the third text and the settings have no part in it", () -> {
             HunkSlides x = Checks.of("ab", "bc", "ab");
             x.set(1, 1);
             Checks.due("distance(0)", x.distance(0), 2);
             Checks.due("distance(1)", x.distance(1), 2);
         });
+    }
+
+    /** The bits of a number, but for the highest one, as lines. */
+    private static String ofBits(int number) {
+        return Integer.toBinaryString(number).substring(1).replace('0', 'a').replace('1', 'b');
     }
 
     private static void viewOrder() {
@@ -112,6 +127,11 @@ public final class LookEdgesTest {
             Checks.due("view(14, w)", Checks.row(5, w -> x.view(14, w)), "2 1 -4 0 0");
             Checks.due("view(27, w)", Checks.row(5, w -> x.view(27, w)), "2 1 -4 13 0");
             Checks.due("view(28, w)", Checks.row(5, w -> x.view(28, w)), "-4 -4 -4 -4 -4");
+        });
+        Checks.test("Promise 12: a full text is left behind before the other one", () -> {
+            String a12 = Checks.times("a", 12);
+            viewed(a12 + "bb", "bb" + a12, "+b+b" + a12 + "-b-b");
+            viewed("bb" + a12, a12 + "bb", "-b-b" + a12 + "+b+b");
         });
         Checks.test("Promise 12: full texts that are the same", () -> {
             HunkSlides x = Checks.of(A14, A14);
@@ -197,6 +217,12 @@ public final class LookEdgesTest {
             Checks.due("view", Checks.view(x), "-}}-{-}{");
             Checks.due("hunk(0, 5)", x.hunk(0, 5), 0);
             Checks.due("hunk(1, 5)", x.hunk(1, 5), 1);
+            HunkSlides y = Checks.settled(".}.{{", ".{");
+            Checks.due("view", Checks.view(y), "-.-}.-{{");
+            Checks.due("hunk(0, 5)", y.hunk(0, 5), 0);
+            HunkSlides z = Checks.settled("a.", "aa.}");
+            Checks.due("view", Checks.view(z), "+aa.+}");
+            Checks.due("hunk(0, 5)", z.hunk(0, 5), 1);
         });
         Checks.test("Promise 13: no plain one slides by none", () -> {
             HunkSlides x = Checks.of("ab", "aa");
@@ -263,7 +289,17 @@ public final class LookEdgesTest {
         Checks.test("Promise 13: the greatest worth is the same with SLIDE as 1, and is that of its place", () -> {
             HunkSlides x = Checks.settled(".ab", ".abab");
             Checks.due("hunk(0, w)", Checks.hunk(x, 0), "1 0 2 1 0 2 4 4 1 1");
+            HunkSlides y = Checks.settled("cb.a", "cb.ab.a");
+            Checks.due("view", Checks.view(y), "cb.+a+b+.a");
+            Checks.due("hunk(0, w)", Checks.hunk(y, 0), "3 0 3 1 2 1 6 6 1 1");
         });
+    }
+
+    private static void settles(String oldText, String newText, String before, String after) {
+        HunkSlides x = Checks.of(oldText, newText);
+        Checks.due("view", Checks.view(x), before);
+        x.set(HunkSlides.SLIDE, 1);
+        Checks.due("view, settled", Checks.view(x), after);
     }
 
     private static void settling() {
@@ -288,6 +324,20 @@ public final class LookEdgesTest {
         });
         Checks.test("Promise 12, Terms: a hunk with the greatest worth at its own place stays", () ->
             Checks.due("view", Checks.view(Checks.settled("cbaba", "cbababa")), "cbaba+b+a"));
+        Checks.test("Promise 12, Terms: a hunk without a better place stays", () -> settles("cab", "cabab", "cab+a+b", "cab+a+b"));
+        Checks.test("Promise 12, Terms: to a place without a line ahead", () -> settles("ab", "abab", "ab+a+b", "+a+bab"));
+        Checks.test("Promise 12, Terms: to a place with a blank line ahead", () ->
+            settles("c.ab", "c.abab", "c.ab+a+b", "c.+a+bab"));
+        Checks.test("Promise 12, Terms: to a place where its last line is blank", () ->
+            settles("ab", "ab.b", "ab+.+b", "a+b+.b"));
+        Checks.test("Promise 12, Terms: to a place where its first line is {", () ->
+            settles("cb{a", "cb{ab{a", "cb{a+b+{+a", "cb+{+a+b{a"));
+        Checks.test("Promise 12, Terms: to a place where its last line is }", () ->
+            settles("ca}b", "ca}b}b", "ca}b+}+b", "ca}+b+}b"));
+        Checks.test("Promise 12, Terms: to a place by the sum of its worth", () ->
+            settles(".a{b}", ".a{b}a{b}", ".a{b}+a+{+b+}", ".+a+{+b+}a{b}"));
+        Checks.test("Promise 12, Terms: of two places with the same sum by other parts, the one farthest down", () ->
+            settles(".a}{", ".a}{a}{", ".a}{+a+}+{", ".a}+{+a+}{"));
         Checks.test("Promise 12, Terms: a greater worth is better than a place farther down", () ->
             Checks.due("view", Checks.view(Checks.settled(".{b}", ".{b{b}")), ".+{+b{b}"));
         Checks.test("Promise 12, Terms: of three places with the greatest worth, the first of them the top", () ->
@@ -348,6 +398,14 @@ public final class LookEdgesTest {
             Checks.due("whyNot(0, false)", x.whyNot(0, false), 2);
             Checks.due("whyNot(1, false)", x.whyNot(1, false), 4);
             Checks.due("whyNot(1, true)", x.whyNot(1, true), 0);
+            HunkSlides y = Checks.settled(".}.{{", ".{");
+            Checks.due("view", Checks.view(y), "-.-}.-{{");
+            Checks.due("whyNot(0, true)", y.whyNot(0, true), 4);
+        });
+        Checks.test("Promise 14: 0 with two kept lines between it and the hunk below it", () -> {
+            HunkSlides x = Checks.settled("a.", "aa.}");
+            Checks.due("view", Checks.view(x), "+aa.+}");
+            Checks.due("whyNot(0, true)", x.whyNot(0, true), 0);
         });
         Checks.test("Promise 14: 0 with two kept lines between it and the hunk above it", () -> why("aa", "baaa", 1, 0, 2));
         Checks.test("Promise 14: the hunks of two texts without a line in common, one of them empty", () -> {
